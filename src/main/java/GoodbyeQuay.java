@@ -809,10 +809,14 @@ public final class GoodbyeQuay {
         if (fitting == 0 || what < 0 || what > 1) {
             return NONE;
         }
-        if (what == 0) {
-            return Integer.numberOfTrailingZeros(fitting) + 1;
+        int found = NONE;
+        for (int needs = 1; needs <= MOST_NEEDS; needs++) {
+            boolean wanted = what == 1 || found == NONE;
+            if (wanted && holds(fitting, needs - 1)) {
+                found = needs;
+            }
         }
-        return 32 - Integer.numberOfLeadingZeros(fitting);
+        return found;
     }
 
     public int ask(int what, int k) {
@@ -1799,11 +1803,18 @@ public final class GoodbyeQuay {
         }
     }
 
-    /** Looks for the first order, by numbers, that is worth most; what can't be worth more is left. */
+    /** Looks for the first order, by numbers, that is worth most; what can't be worth more is passed over. */
     static final class Orders {
+        private static final int SLOT_BITS = 10;
+        private static final int SLOTS = 1 << SLOT_BITS;
+        // The golden ratio's bits spread neighbouring keys over the slots.
+        private static final int SPREAD = 0x9E3779B1;
+
         final int[] worths = new int[MOST_PAIRS];
         final int[] best = new int[MOST_PAIRS];
         private final int[] path = new int[MOST_PAIRS];
+        private final int[] knownKeys = new int[SLOTS];
+        private final int[] knownWorths = new int[SLOTS];
         private final Trial trial;
         private int size;
         private int most;
@@ -1816,6 +1827,9 @@ public final class GoodbyeQuay {
         int findBest(int pairs) {
             size = Integer.bitCount(pairs);
             most = NONE;
+            for (int i = 0; i < SLOTS; i++) {
+                knownKeys[i] = NONE;
+            }
             trial.openRails(0);
             goOn(0, pairs, 0);
             return most;
@@ -1835,7 +1849,7 @@ public final class GoodbyeQuay {
                 path[depth] = p;
                 int others = left & ~(1 << p);
                 int gained = worth + (trial.take(p, rail, size - 1 - depth) ? worths[p] : 0);
-                if (gained + hopeOf(others) > most) {
+                if (gained + hopeOf(others) > most && !isKnown(others, gained)) {
                     goOn(depth + 1, others, gained);
                 }
                 trial.freeAt[rail] = free;
@@ -1858,6 +1872,27 @@ public final class GoodbyeQuay {
                 }
             }
             return sum;
+        }
+
+        /**
+         * Whether these were left already, the rails free at the same minutes, with no less gained:
+         * then an order further ahead was worth no less. A slot that another takes only costs time.
+         */
+        private boolean isKnown(int left, int gained) {
+            int sooner = trial.freeAt[0];
+            int later = sooner;
+            for (int r = 1; r < trial.rails; r++) {
+                sooner = Math.min(sooner, trial.freeAt[r]);
+                later = Math.max(later, trial.freeAt[r]);
+            }
+            int key = (later << 10 | sooner) << MOST_PAIRS | left;
+            int slot = key * SPREAD >>> 32 - SLOT_BITS;
+            if (knownKeys[slot] == key && knownWorths[slot] >= gained) {
+                return true;
+            }
+            knownKeys[slot] = key;
+            knownWorths[slot] = gained;
+            return false;
         }
     }
 
