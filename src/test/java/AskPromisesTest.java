@@ -77,6 +77,7 @@ public final class AskPromisesTest {
         due(20, "one that gave up", x.will(1, 100, 0), 4);
         Told.minutes(x, 3);
         // A quarrel that was goes on, though none is to come.
+        due(20, "will(0, 0, 0) from 3 on", x.will(0, 0, 0), 1);
         due(20, "will(0, 4, 0) from 3 on", x.will(0, 4, 0), 1);
         due(20, "will(0, 5, 0) from 3 on", x.will(0, 5, 0), 2);
         Told.minutes(x, 5);
@@ -88,6 +89,12 @@ public final class AskPromisesTest {
         due(20, "will(1, 8, 1)", x.will(1, 8, 1), 2);
         due(20, "will(2, 9, 1)", x.will(2, 9, 1), 2);
         due(20, "will(2, 3, 0)", x.will(2, 3, 0), 2);
+        // Who misses it in the queue takes no draw, be it just as its ship sails.
+        x = Told.of("ship a sails 4;ship b sails 40;pair p ship b needs 1;pair q ship a needs 1;pair r ship b needs 1;"
+                + "quarrels 20;draw 9;");
+        due(20, "will(1, 5, 1)", x.will(1, 5, 1), 3);
+        due(20, "will(2, 7, 1)", x.will(2, 7, 1), 1);
+        due(20, "will(2, 8, 1)", x.will(2, 8, 1), 2);
     }
 
     private static void saysAndSteps() {
@@ -192,6 +199,10 @@ public final class AskPromisesTest {
         lie(27, x, 0, 1);
         due(28, "dearest() of none", x.dearest(), 0);
         lie(28, x, 0, 1);
+        // The first one lasts 10 minutes, the last one 5, whoever it is.
+        x = Told.of("ship a sails 15;pair p ship a needs 1;pair q ship a needs 1;lasts 5+behind*5;");
+        due(27, "order() by behind", x.order(), 2);
+        lie(27, x, 0, 1);
         // Seven that all say it in the last order but one: each needs a ship that sails just then.
         x = Told.of("ship a sails 1;ship b sails 2;ship c sails 3;ship d sails 4;ship e sails 7;"
                 + "pair a ship e needs 1;pair b ship e needs 1;pair c ship e needs 1;pair d ship d needs 1;"
@@ -356,6 +367,14 @@ public final class AskPromisesTest {
         due(33, "wish(2)", x.wish(2), 0);
         due(34, "trade()", x.trade(), 1);
         lie(34, x, 2, 1, 0);
+        // Two rails, and each is quick at one place alone: p at 1, q at 2, r at 0, a round of three.
+        x = Told.of("rails 2;ship a sails 99;pair p ship a needs 2 love 1;pair q ship a needs 9 love 0;"
+                + "pair r ship a needs 2 love 2;lasts needs*(not behind=love)+1;");
+        due(33, "wish(0)", x.wish(0), 1);
+        due(33, "wish(1)", x.wish(1), 2);
+        due(33, "wish(2)", x.wish(2), 0);
+        due(34, "trade()", x.trade(), 1);
+        lie(34, x, 2, 0, 1);
     }
 
     private static void delays() {

@@ -33,6 +33,8 @@ public final class ModelTest {
         for (long seed = first; seed < first + runs && wrong < 5; seed++) {
             new ModelTest(seed).mixedRun();
             new ModelTest(seed).textRun();
+            new ModelTest(seed).orderRun();
+            new ModelTest(-seed).orderRun();
         }
         System.out.println(wrong == 0 ? "the class answers as the model does" : wrong + " answers are not the model's");
         if (wrong != 0) {
@@ -79,6 +81,32 @@ public final class ModelTest {
             }
             tell(text);
             call("about", random.nextInt(17));
+        }
+    }
+
+    /** Orders of four to six, where a rail more or a minute later matters. */
+    private void orderRun() throws Exception {
+        StringBuilder b = new StringBuilder(random.nextBoolean() ? "rails 2;" : "");
+        for (char s = 'a'; s <= 'd'; s++) {
+            b.append("ship ").append(s).append(" sails ").append(4 + random.nextInt(25)).append(";");
+        }
+        int pairs = random.nextInt(20) == 0 ? 6 : 4 + random.nextInt(2);
+        for (char p = 'a'; p < 'a' + pairs; p++) {
+            b.append("pair ").append(p).append(" ship ").append((char) ('a' + random.nextInt(4)));
+            b.append(" needs ").append(1 + random.nextInt(12)).append(" love ").append(random.nextInt(9)).append(";");
+        }
+        if (random.nextBoolean()) {
+            b.append(pick("lasts needs+behind;", "lasts needs-minute/3;", "lasts left/2;", "lasts needs-behind+love;"));
+        }
+        tell(b.toString());
+        for (int i = random.nextInt(4); i > 0; i--) {
+            call("minute");
+        }
+        for (String name : new String[] {"order", "dearest"}) {
+            call(name);
+            for (int i = 0; i <= pairs; i++) {
+                call("lies", i);
+            }
         }
     }
 
