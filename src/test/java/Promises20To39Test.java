@@ -214,6 +214,11 @@ public final class Promises20To39Test {
         GoodbyeQuay two = Told.of("rails 2;ship a sails 5;ship b sails 2;pair p ship a needs 5;pair q ship a needs 3;pair r ship b needs 2;");
         Sentence.due("order(), two rails", two.order(), 3);
         lie(two, 0, 2, 1);
+        // p can't say it, but only where it holds no rail do the others: both rails must be taken ahead of it.
+        two = Told.of("rails 2;ship b sails 4;ship c sails 13;pair p ship b needs 8;pair q ship c needs 5;pair r ship c needs 7;"
+                + "pair s ship c needs 6;pair t ship c needs 6;");
+        Sentence.due("order(), two rails, one in the way", two.order(), 4);
+        lie(two, 1, 2, 0, 3, 4);
         String byBehind = "pair p ship a needs 1;pair q ship a needs 1;lasts 5+behind*5;";
         Sentence.due("order(), 10 minutes and 5", Told.of("ship a sails 15;" + byBehind).order(), 2);
         Sentence.due("order(), 10 minutes and 5, a minute too long", Told.of("ship a sails 14;" + byBehind).order(), 1);

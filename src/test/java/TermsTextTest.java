@@ -199,6 +199,10 @@ public final class TermsTextTest {
             String shorter = word.substring(1);
             Sentence.right("ship " + shorter + " sails 1;pair " + shorter + " ship " + shorter + " needs 1;");
         }
+        // Words that stand for others here are NAMES.
+        for (String word : new String[] {"quay", "line", "e", "both", "one", "sum", "term", "unit"}) {
+            Sentence.right("ship " + word + " sails 1;pair " + word + " ship " + word + " needs 1;");
+        }
     }
 
     private static String manyShips(int many) {
