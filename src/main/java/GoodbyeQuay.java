@@ -1404,10 +1404,14 @@ public final class GoodbyeQuay {
             if (opens) {
                 advance();
                 readFormula(within + 1);
-                expect(')');
-                return;
+                // Not by expect(), which would make the calls that stand open nine deep.
+                if (kind != ')') {
+                    refuse(OUT_OF_PLACE);
+                    return;
+                }
+            } else {
+                into.formula.add(kind == NUMBER ? number : -1 - (kind - CUSTOM));
             }
-            into.formula.add(kind == NUMBER ? number : -1 - (kind - CUSTOM));
             advance();
         }
 

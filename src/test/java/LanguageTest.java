@@ -10,7 +10,9 @@ import java.util.ArrayList;
 import java.util.Arrays;
 import java.util.HashSet;
 import java.util.List;
+import java.util.Map;
 import java.util.Set;
+import java.util.TreeMap;
 import java.util.TreeSet;
 import java.util.regex.Matcher;
 import java.util.regex.Pattern;
@@ -18,16 +20,6 @@ import java.util.regex.Pattern;
 /** What of ../shared/LANGUAGE.md can be seen from the source and from the class: the face, the words, the room. */
 public final class LanguageTest {
     private static final String SOURCE = "src/main/java/GoodbyeQuay.java";
-    private static final String FACE = "int feed(int int int int int);int end(int);int quay();int fault(int);"
-            + "int ship(int int);int pair(int int);int queue(int);int rail(int int);int length(int);int minute();"
-            + "int change(int int);int shorten(int);int insist(int);int giveUp(int);int join(int);int await(int);"
-            + "boolean undo();boolean redo();int will(int int int);int says(int);int steps(int);int missing();"
-            + "int empty();int count();int love();int order();int dearest();int shortest(int);int spare(int);"
-            + "int hold(int);int swap(int);int wish(int);int trade();int delay(int int);int grudge(int);"
-            + "int blame(int int);int room();int lets(int);int last(int int);int second();int aside(int);"
-            + "int soonest();int fondest();int waves();int litter();int law(int);int odds(int int);int lies(int);"
-            + "int seen(int int boolean);boolean untell(int);int later(int);int fits(int);int sure(int int);"
-            + "int ask(int int);int image(int);int back(int);int about(int)";
     private static final Set<String> LIBRARY = new HashSet<>(Arrays.asList(
             "Math.min", "Math.max", "Math.abs", "Integer.bitCount", "System.arraycopy"));
     private static int wrong = 0;
@@ -60,10 +52,26 @@ public final class LanguageTest {
         }
     }
 
-    private static void face() {
+    /** The methods that the document's face has, as "int feed(int int int int int)". */
+    private static Set<String> faceOfDocument() throws IOException {
+        String shared = System.getenv("SHARED");
+        String document = Files.readString(Paths.get(shared == null ? "../shared" : shared, "DOC.md"));
+        String code = document.substring(document.indexOf("```java") + 7);
+        Matcher m = Pattern.compile("public (int|boolean) (\\w+)\\(([^)]*)\\);")
+                .matcher(code.substring(0, code.indexOf("```")));
+        Set<String> methods = new TreeSet<>();
+        while (m.find()) {
+            String types = m.group(3).replaceAll(" \\w+(, |$)", " ").trim();
+            methods.add(m.group(1) + " " + m.group(2) + "(" + types + ")");
+        }
+        rule(1, methods.size() == 57, "the document's face has " + methods.size() + " methods");
+        return methods;
+    }
+
+    private static void face() throws IOException {
         Class<?> face = GoodbyeQuay.class;
         rule(1, Modifier.isFinal(face.getModifiers()) && Modifier.isPublic(face.getModifiers()), "not public and final");
-        Set<String> due = new TreeSet<>(Arrays.asList(FACE.split(";")));
+        Set<String> due = faceOfDocument();
         Set<String> got = new TreeSet<>();
         for (Method m : face.getDeclaredMethods()) {
             if (Modifier.isPrivate(m.getModifiers())) {
@@ -135,8 +143,9 @@ public final class LanguageTest {
     }
 
     private static void methodsStayShort(String code) {
+        Map<String, String> bodies = new TreeMap<>();
         String[] lines = code.split("\n");
-        Pattern head = Pattern.compile("^( {4}| {8})(?!.*\\bclass\\b)[A-Za-z].*\\) \\{$");
+        Pattern head = Pattern.compile("^( {4}| {8})(?!.*\\bclass\\b)[A-Za-z].*?(\\w+)\\(.*\\) \\{$");
         for (int i = 0; i < lines.length; i++) {
             Matcher m = head.matcher(lines[i]);
             if (m.find()) {
@@ -145,8 +154,62 @@ public final class LanguageTest {
                     end++;
                 }
                 rule(11, end - i <= 60, "a method of " + (end - i) + " lines: " + lines[i].trim());
+                String body = String.join(" ", Arrays.copyOfRange(lines, i + 1, end));
+                bodies.merge(m.group(2), body, (one, other) -> one + " " + other);
             }
         }
+        callsStayShallow(bodies);
+    }
+
+    /** Methods of one name count as one, as does all that can call itself by way of others. */
+    private static void callsStayShallow(Map<String, String> bodies) {
+        Map<String, Set<String>> calls = new TreeMap<>();
+        for (Map.Entry<String, String> each : bodies.entrySet()) {
+            Set<String> called = new TreeSet<>();
+            // What is called on a constant, as WORDS.length(), is the library's.
+            Matcher m = Pattern.compile("(?<![A-Z]\\.)\\b(\\w+)\\(").matcher(each.getValue());
+            while (m.find()) {
+                called.add(m.group(1));
+            }
+            called.retainAll(bodies.keySet());
+            calls.put(each.getKey(), called);
+        }
+        Map<String, Set<String>> reached = new TreeMap<>();
+        for (String name : calls.keySet()) {
+            reached.put(name, new TreeSet<>());
+            reach(name, calls, reached.get(name));
+        }
+        rule(11, calls.containsKey("readFormula") && calls.get("readTerm").contains("readUnit"), "no calls were found");
+        for (String name : calls.keySet()) {
+            List<String> chain = longestFrom(name, calls, reached);
+            rule(11, chain.size() <= 8, "calls " + chain.size() + " deep: " + chain);
+        }
+    }
+
+    private static void reach(String from, Map<String, Set<String>> calls, Set<String> reached) {
+        for (String name : calls.get(from)) {
+            if (reached.add(name)) {
+                reach(name, calls, reached);
+            }
+        }
+    }
+
+    private static List<String> longestFrom(String name, Map<String, Set<String>> calls, Map<String, Set<String>> reached) {
+        List<String> longest = new ArrayList<>();
+        for (String member : calls.keySet()) {
+            boolean together = reached.get(name).contains(member) && reached.get(member).contains(name);
+            if (!together && !member.equals(name)) {
+                continue;
+            }
+            for (String called : calls.get(member)) {
+                boolean back = reached.get(called).contains(name) || called.equals(name);
+                List<String> chain = back ? new ArrayList<>() : longestFrom(called, calls, reached);
+                longest = chain.size() > longest.size() ? chain : longest;
+            }
+        }
+        List<String> all = new ArrayList<>(longest);
+        all.add(0, name);
+        return all;
     }
 
     /** All calls of a run live in one room, so rows are made by the constructor alone. */
